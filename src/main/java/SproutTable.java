@@ -24,13 +24,12 @@ public final class SproutTable {
     private final Game game;
     private final Notes[] images;
     private final Move asked;
-    private final Solver solver;
+    private Solver solver;
 
     public SproutTable() {
         game = new Game();
         images = new Notes[IMAGES];
         asked = new Move();
-        solver = new Solver();
         game.start(FIRST_SPOTS);
     }
 
@@ -116,17 +115,26 @@ public final class SproutTable {
 
     public int made(int t, int what) {
         Notes notes = game.notes;
-        return t >= 0 && t < notes.madeCount ? notes.moves[t].part(what) : NONE;
+        return t >= 0 && t < notes.madeCount ? notes.told[t].part(what) : NONE;
     }
 
     public int nim() {
-        Position now = game.now();
-        return now.lifeCount > MOST_SOLVED_LIVES ? NONE : solver.worth(now);
+        return canBeSolved() ? solver.worth(game.now()) : NONE;
     }
 
     public int best() {
-        Position now = game.now();
-        return now.lifeCount > MOST_SOLVED_LIVES ? NONE : solver.firstToZero(now, asked);
+        return canBeSolved() ? solver.firstToZero(game.now(), asked) : NONE;
+    }
+
+    /** The solver is made when it is first needed: many a table never asks for it. */
+    private boolean canBeSolved() {
+        if (game.now().lifeCount > MOST_SOLVED_LIVES) {
+            return false;
+        }
+        if (solver == null) {
+            solver = new Solver();
+        }
+        return true;
     }
 
     public boolean image(int k) {
@@ -197,13 +205,13 @@ public final class SproutTable {
 
     /** How a game went: enough to play it once more. */
     private static final class Notes {
-        final Move[] moves = new Move[MOST_MOVES];
+        final Move[] told = new Move[MOST_MOVES];
         int firstSpots;
         int madeCount;
 
         Notes() {
             for (int t = 0; t < MOST_MOVES; t++) {
-                moves[t] = new Move();
+                told[t] = new Move();
             }
         }
 
@@ -211,7 +219,7 @@ public final class SproutTable {
             firstSpots = other.firstSpots;
             madeCount = other.madeCount;
             for (int t = 0; t < madeCount; t++) {
-                moves[t].take(other.moves[t]);
+                told[t].take(other.told[t]);
             }
         }
     }
@@ -243,7 +251,7 @@ public final class SproutTable {
                 return NONE;
             }
             after[t + 1].become(after[t], move);
-            notes.moves[t].take(move);
+            notes.told[t].take(move);
             notes.madeCount = t + 1;
             return after[t].spotCount;
         }
@@ -259,7 +267,7 @@ public final class SproutTable {
         void replay(Notes image) {
             start(image.firstSpots);
             for (int t = 0; t < image.madeCount; t++) {
-                play(image.moves[t]);
+                play(image.told[t]);
             }
         }
     }
@@ -304,7 +312,11 @@ public final class SproutTable {
         }
 
         int cornersOn(int field, int wall) {
-            int w = fieldFrom[field] + wall;
+            return size(fieldFrom[field] + wall);
+        }
+
+        /** Corners of a wall by its place in the row of all walls. */
+        int size(int w) {
             return wallFrom[w + 1] - wallFrom[w];
         }
 
@@ -333,7 +345,7 @@ public final class SproutTable {
             return canMeet(spot(m.field, m.u, m.i), spot(m.field, m.v, m.j));
         }
 
-        /** Goes from m to the next two corners in THE ORDER that can be joined; false behind the last ones. */
+        /** Goes from m to the next two corners in THE ORDER that can meet; false behind the last ones. */
         boolean nextPair(Move m) {
             m.j++;
             for (; m.field < fieldCount; m.field++) {
@@ -434,7 +446,6 @@ public final class SproutTable {
         /** What move m, which p allows, makes of p. */
         void become(Position p, Move m) {
             takeSpots(p);
-            int c = spotCount;
             spend(p.spot(m.field, m.u, m.i));
             spend(p.spot(m.field, m.v, m.j));
             addSpot(1);
@@ -445,13 +456,13 @@ public final class SproutTable {
                 if (f != m.field) {
                     putField(p, f);
                 } else if (m.u != m.v) {
-                    putJoined(p, m, c);
+                    putJoined(p, m);
                 } else {
-                    putFirstHalf(p, m, c);
+                    putHalf(p, m, 0);
                 }
             }
             if (m.u == m.v) {
-                putSecondHalf(p, m, c);
+                putHalf(p, m, 1);
             }
         }
 
@@ -461,92 +472,81 @@ public final class SproutTable {
         }
 
         void putField(Position p, int field) {
-            for (int w = 0; w < p.wallsIn(field); w++) {
-                putWall(p, field, w);
+            for (int w = p.fieldFrom[field]; w < p.fieldFrom[field + 1]; w++) {
+                putRound(p, w, 0, p.size(w));
+                closeWall();
             }
             closeField();
         }
 
-        void putWall(Position p, int field, int wall) {
-            putRun(p, field, wall, 0, p.cornersOn(field, wall) - 1);
-            closeWall();
-        }
-
-        void putRun(Position p, int field, int wall, int from, int to) {
-            int base = p.wallFrom[p.fieldFrom[field] + wall];
-            for (int k = from; k <= to; k++) {
-                put(p.spotAt[base + k]);
+        /** So many corners of a wall of p, one behind the other, from one on. */
+        void putRound(Position p, int w, int from, int many) {
+            int base = p.wallFrom[w];
+            int size = p.size(w);
+            int at = from;
+            for (int k = 0; k < many; k++) {
+                put(p.spotAt[base + at]);
+                at = at + 1 < size ? at + 1 : 0;
             }
         }
 
-        /** The round of a wall from a corner on, back to that corner if its spot has a curve. */
-        void putRound(Position p, int field, int wall, int k) {
-            putRun(p, field, wall, k, p.cornersOn(field, wall) - 1);
-            if (p.life[p.spot(field, wall, k)] < FULL_LIFE) {
-                putRun(p, field, wall, 0, k);
-            }
+        /** How many corners the whole round of a wall has from one on: that one again, if it has a curve. */
+        int wholeRound(int w, int k) {
+            return life[spotAt[wallFrom[w] + k]] == FULL_LIFE ? 1 : size(w) + 1;
         }
 
-        void putJoined(Position p, Move m, int c) {
-            for (int w = 0; w < p.wallsIn(m.field); w++) {
-                if (w == m.u) {
-                    putRound(p, m.field, m.u, m.i);
+        void putJoined(Position p, Move m) {
+            int first = p.fieldFrom[m.field];
+            int c = p.spotCount;
+            for (int w = first; w < p.fieldFrom[m.field + 1]; w++) {
+                if (w == first + m.u) {
+                    putRound(p, w, m.i, p.wholeRound(w, m.i));
                     put(c);
-                    putRound(p, m.field, m.v, m.j);
+                    putRound(p, first + m.v, m.j, p.wholeRound(first + m.v, m.j));
                     put(c);
                     closeWall();
-                } else if (w != m.v) {
-                    putWall(p, m.field, w);
+                } else if (w != first + m.v) {
+                    putRound(p, w, 0, p.size(w));
+                    closeWall();
                 }
             }
             closeField();
         }
 
-        void putFirstHalf(Position p, Move m, int c) {
-            putRun(p, m.field, m.u, m.i, m.j);
-            put(c);
-            closeWall();
-            putOthers(p, m, 0);
-            closeField();
-        }
-
-        void putSecondHalf(Position p, Move m, int c) {
-            if (m.i == m.j) {
-                putRound(p, m.field, m.u, m.i);
+        /** The first (0) or the second (1) of the fields into which m divides one. */
+        void putHalf(Position p, Move m, int half) {
+            int first = p.fieldFrom[m.field];
+            int divided = first + m.u;
+            int inner = m.j - m.i + 1;
+            if (half == 0) {
+                putRound(p, divided, m.i, inner);
             } else {
-                putRun(p, m.field, m.u, m.j, p.cornersOn(m.field, m.u) - 1);
-                putRun(p, m.field, m.u, 0, m.i);
+                putRound(p, divided, m.j, p.wholeRound(divided, m.i) - inner + 1);
             }
-            put(c);
+            put(p.spotCount);
             closeWall();
-            putOthers(p, m, 1);
-            closeField();
-        }
-
-        void putOthers(Position p, Move m, int bit) {
             int rest = m.side;
-            for (int w = 0; w < p.wallsIn(m.field); w++) {
-                if (w != m.u) {
-                    if ((rest & 1) == bit) {
-                        putWall(p, m.field, w);
+            for (int w = first; w < p.fieldFrom[m.field + 1]; w++) {
+                if (w != divided) {
+                    if ((rest & 1) == half) {
+                        putRound(p, w, 0, p.size(w));
+                        closeWall();
                     }
                     rest = rest >> 1;
                 }
             }
+            closeField();
         }
 
         void put(int a) {
-            if (lean && (life[a] == 0 || repeats(a))) {
+            boolean inWall = cornerCount > wallFrom[wallCount];
+            if (lean && (life[a] == 0 || inWall && spotAt[cornerCount - 1] == a)) {
                 return;
             }
             if (cornerCount < spotAt.length) {
                 spotAt[cornerCount] = a;
                 cornerCount++;
             }
-        }
-
-        boolean repeats(int a) {
-            return cornerCount > wallFrom[wallCount] && spotAt[cornerCount - 1] == a;
         }
 
         void closeWall() {
@@ -588,7 +588,8 @@ public final class SproutTable {
 
     /** Nim-worths that are known, by key; what finds no room drives out something older. */
     private static final class Memo {
-        static final int SLOTS = 1 << 14;
+        static final int SLOT_BITS = 12;
+        static final int SLOTS = 1 << SLOT_BITS;
         static final int TRIES = 8;
         final long[] high = new long[SLOTS];
         final long[] low = new long[SLOTS];
@@ -596,7 +597,7 @@ public final class SproutTable {
 
         int slot(long h, long l, int attempt) {
             long mixed = (h * 31 + l) * 0x9E3779B97F4A7C15L;
-            return (int) ((mixed >>> 40) + attempt) & (SLOTS - 1);
+            return (int) (mixed >>> 64 - SLOT_BITS) + attempt & SLOTS - 1;
         }
 
         int find(long h, long l) {
@@ -662,10 +663,6 @@ public final class SproutTable {
             return times[a] == 2 && firstField[a] == lastField[a];
         }
 
-        boolean pairedAcross(int a) {
-            return times[a] == 2 && firstField[a] != lastField[a];
-        }
-
         /** The fields of the next part, as bits; 0 if there is none. */
         int nextPart(int fieldCount) {
             int part = fieldsLeft & -fieldsLeft;
@@ -701,10 +698,14 @@ public final class SproutTable {
      * mirror image. The key tells the whole part, so it can be read back.
      */
     private static final class Namer {
+        // Where the second half of the rows for walls begins, that of mirror images.
+        static final int MIRRORED = MOST_WALLS;
         static final int FREE_SPOT = 1;
         static final int LEAF_SPOT = 2;
         static final int LONE_SPOT = 3;
         static final int FIRST_LETTER = 4;
+        // The second round, with letters told apart, finds nearly all parts that are the same.
+        static final int ROUNDS = 2;
         static final int CORNERS_IN_LONG = 10;
         static final int CODE_BITS = 6;
         static final int MORE = 0;
@@ -714,9 +715,9 @@ public final class SproutTable {
         final Parts parts;
         final int[] sign = new int[MOST_SPOTS];
         final int[] fieldRow = new int[MOST_FIELDS];
-        final int[] wallRow = new int[2 * MOST_WALLS];
-        final long[] text = new long[2 * MOST_WALLS];
-        final int[] begin = new int[2 * MOST_WALLS];
+        final int[] wallRow = new int[2 * MIRRORED];
+        final long[] text = new long[2 * MIRRORED];
+        final int[] startOf = new int[2 * MIRRORED];
         final int[] turn = new int[MOST_FIELDS];
         final int[] walked = new int[MOST_CORNERS];
         final int[] ending = new int[MOST_CORNERS];
@@ -732,10 +733,15 @@ public final class SproutTable {
         void name(Position p, int part) {
             takeFields(p, part);
             signByKind(p);
-            arrange(p);
-            signByFirstSight(p);
-            arrange(p);
-            signByFirstSight(p);
+            boolean unsure = true;
+            for (int round = 0; round < ROUNDS && unsure; round++) {
+                for (int r = 0; r < fieldsInRow; r++) {
+                    turnField(p, fieldRow[r]);
+                }
+                rowFields(p);
+                walk(p);
+                unsure = signByFirstSight();
+            }
             encode();
         }
 
@@ -761,42 +767,44 @@ public final class SproutTable {
             }
         }
 
-        void signByFirstSight(Position p) {
+        /** Names the letters in the order of the walk; false if there are none. */
+        boolean signByFirstSight() {
             for (int k = 0; k < walkedCount; k++) {
-                int a = walked[k];
-                if (sign[a] >= FIRST_LETTER) {
-                    sign[a] = 0;
+                if (sign[walked[k]] >= FIRST_LETTER) {
+                    sign[walked[k]] = 0;
                 }
             }
             int next = FIRST_LETTER;
             for (int k = 0; k < walkedCount; k++) {
-                int a = walked[k];
-                if (sign[a] == 0) {
-                    sign[a] = next;
+                if (sign[walked[k]] == 0) {
+                    sign[walked[k]] = next;
                     next++;
                 }
             }
+            return next > FIRST_LETTER;
         }
 
-        /** Puts walls and fields in the order of their texts, and walks them in it. */
-        void arrange(Position p) {
-            for (int r = 0; r < fieldsInRow; r++) {
-                int f = fieldRow[r];
-                rowWalls(p, f, 0);
-                rowWalls(p, f, MOST_WALLS);
-                turn[f] = 0;
-                turn[f] = compareRows(p, f, 0, f, MOST_WALLS) <= 0 ? 0 : MOST_WALLS;
+        /** Takes a field or its mirror image, whichever has the lesser texts. */
+        void turnField(Position p, int f) {
+            rowWalls(p, f, 0);
+            rowWalls(p, f, MIRRORED);
+            turn[f] = 0;
+            if (compareRows(p, f, f, MIRRORED) > 0) {
+                turn[f] = MIRRORED;
             }
+        }
+
+        /** Great fields come first: they tell most of their letters apart. */
+        void rowFields(Position p) {
             for (int r = 1; r < fieldsInRow; r++) {
                 int f = fieldRow[r];
                 int place = r;
-                while (place > 0 && compareRows(p, f, turn[f], fieldRow[place - 1], turn[fieldRow[place - 1]]) < 0) {
+                while (place > 0 && compareRows(p, fieldRow[place - 1], f, turn[f]) < 0) {
                     fieldRow[place] = fieldRow[place - 1];
                     place--;
                 }
                 fieldRow[place] = f;
             }
-            walk(p);
         }
 
         void rowWalls(Position p, int f, int way) {
@@ -811,7 +819,9 @@ public final class SproutTable {
             }
         }
 
-        int compareRows(Position p, int f, int way, int g, int otherWay) {
+        /** Compares field f, as it is turned, with field g turned that way. */
+        int compareRows(Position p, int f, int g, int otherWay) {
+            int way = turn[f];
             int size = p.wallsIn(f);
             if (size != p.wallsIn(g)) {
                 return size - p.wallsIn(g);
@@ -826,10 +836,14 @@ public final class SproutTable {
             return 0;
         }
 
-        /** The least text of a wall over all corners to begin with, on one of the two ways round. */
+        /**
+         * The least text of a wall over all corners to begin with, on one of the two ways round.
+         * Texts only choose among names of one part: if one were too long for a long, no answer
+         * would be another one.
+         */
         void readWall(Position p, int w, int way) {
             int from = p.wallFrom[w];
-            int size = p.wallFrom[w + 1] - from;
+            int size = p.size(w);
             long read = 0;
             for (int k = 0; k < size; k++) {
                 int at = way == 0 ? from + k : from + size - 1 - k;
@@ -847,35 +861,34 @@ public final class SproutTable {
                 }
             }
             text[way + w] = least;
-            begin[way + w] = way == 0 ? start : size - 1 - start;
+            startOf[way + w] = way == 0 ? start : size - 1 - start;
         }
 
         void walk(Position p) {
             walkedCount = 0;
             for (int r = 0; r < fieldsInRow; r++) {
                 int f = fieldRow[r];
-                for (int k = p.fieldFrom[f]; k < p.fieldFrom[f + 1]; k++) {
-                    walkWall(p, wallRow[turn[f] + k], turn[f]);
+                int last = p.fieldFrom[f + 1] - 1;
+                for (int k = p.fieldFrom[f]; k <= last; k++) {
+                    walkWall(p, wallRow[turn[f] + k], turn[f], k < last ? WALL_ENDS : FIELD_ENDS);
                 }
-                ending[walkedCount - 1] = FIELD_ENDS;
             }
         }
 
-        void walkWall(Position p, int w, int way) {
+        void walkWall(Position p, int w, int way, int end) {
             int from = p.wallFrom[w];
-            int size = p.wallFrom[w + 1] - from;
-            int at = begin[way + w];
+            int size = p.size(w);
+            int at = startOf[way + w];
             for (int k = 0; k < size; k++) {
                 walked[walkedCount] = p.spotAt[from + at];
-                ending[walkedCount] = MORE;
+                ending[walkedCount] = k < size - 1 ? MORE : end;
                 walkedCount++;
                 if (way == 0) {
-                    at = at + 1 == size ? 0 : at + 1;
+                    at = at + 1 < size ? at + 1 : 0;
                 } else {
-                    at = at == 0 ? size - 1 : at - 1;
+                    at = at > 0 ? at - 1 : size - 1;
                 }
             }
-            ending[walkedCount - 1] = WALL_ENDS;
         }
 
         void encode() {
@@ -892,8 +905,9 @@ public final class SproutTable {
         }
     }
 
+    /** Nim-worths of positions, part by part; what is needed of a level stands ready in its rows. */
     private static final class Solver {
-        static final int LEVELS = MOST_SOLVED_LIVES + 1;
+        static final int LEVELS = MOST_SOLVED_LIVES;
         static final int MOST_PARTS = MOST_SOLVED_LIVES / 2 + 1;
         final Parts parts = new Parts();
         final Namer namer = new Namer(parts);
@@ -961,8 +975,12 @@ public final class SproutTable {
 
         int worthOfKey(long high, long low, int depth) {
             int known = memo.find(high, low);
-            if (known != NONE || depth >= LEVELS) {
+            if (known != NONE) {
                 return known;
+            }
+            // Never so deep: every move takes a life, and a part of two lives is not looked into.
+            if (depth >= LEVELS) {
+                return 0;
             }
             Position p = level[depth];
             decode(high, low, p);
