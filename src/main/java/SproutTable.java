@@ -707,7 +707,9 @@ public final class SproutTable {
         // The second round, with letters told apart, finds nearly all parts that are the same.
         static final int ROUNDS = 2;
         static final int CORNERS_IN_LONG = 10;
-        static final int CODE_BITS = 6;
+        static final int SIGN_BITS = 4;
+        static final int ENDING_BITS = 2;
+        static final int CODE_BITS = SIGN_BITS + ENDING_BITS;
         static final int MORE = 0;
         static final int WALL_ENDS = 1;
         static final int FIELD_ENDS = 2;
@@ -847,14 +849,14 @@ public final class SproutTable {
             long read = 0;
             for (int k = 0; k < size; k++) {
                 int at = way == 0 ? from + k : from + size - 1 - k;
-                read = read << 4 | sign[p.spotAt[at]];
+                read = read << SIGN_BITS | sign[p.spotAt[at]];
             }
-            int topShift = 4 * (size - 1);
+            int topShift = SIGN_BITS * (size - 1);
             long least = read;
             int start = 0;
             for (int k = 1; k < size; k++) {
                 long top = read >>> topShift;
-                read = (read ^ top << topShift) << 4 | top;
+                read = (read ^ top << topShift) << SIGN_BITS | top;
                 if (read < least) {
                     least = read;
                     start = k;
@@ -895,7 +897,7 @@ public final class SproutTable {
             high = 0;
             low = 0;
             for (int k = 0; k < walkedCount; k++) {
-                long code = sign[walked[k]] * 4 + ending[k];
+                long code = sign[walked[k]] << ENDING_BITS | ending[k];
                 if (k < CORNERS_IN_LONG) {
                     high |= code << CODE_BITS * k;
                 } else {
@@ -917,7 +919,7 @@ public final class SproutTable {
         final Move[] tried = new Move[LEVELS];
         final long[] partHigh = new long[(LEVELS + 1) * MOST_PARTS];
         final long[] partLow = new long[(LEVELS + 1) * MOST_PARTS];
-        final int[] letterSpot = new int[16];
+        final int[] letterSpot = new int[1 << Namer.SIGN_BITS];
 
         Solver() {
             for (int d = 0; d < LEVELS; d++) {
@@ -948,7 +950,7 @@ public final class SproutTable {
             return NONE;
         }
 
-        int worthOfDraft(int depth) {
+        private int worthOfDraft(int depth) {
             int sum = 0;
             int from = depth * MOST_PARTS;
             int to = from;
@@ -958,6 +960,7 @@ public final class SproutTable {
                 if (part == 0) {
                     break;
                 }
+                // Whatever move is made of two lives, it is the last one.
                 if (parts.livesOf(part, draft) == 2) {
                     sum ^= 1;
                 } else {
@@ -973,7 +976,7 @@ public final class SproutTable {
             return sum;
         }
 
-        int worthOfKey(long high, long low, int depth) {
+        private int worthOfKey(long high, long low, int depth) {
             int known = memo.find(high, low);
             if (known != NONE) {
                 return known;
@@ -1012,8 +1015,8 @@ public final class SproutTable {
         void decodeCorners(long codes, Position p) {
             long rest = codes;
             for (int k = 0; k < Namer.CORNERS_IN_LONG && rest != 0; k++) {
-                int sign = (int) (rest >> 2) & 15;
-                int ending = (int) rest & 3;
+                int sign = (int) (rest >> Namer.ENDING_BITS) & (1 << Namer.SIGN_BITS) - 1;
+                int ending = (int) rest & (1 << Namer.ENDING_BITS) - 1;
                 p.put(spotOf(sign, p));
                 if (ending != Namer.MORE) {
                     p.closeWall();

@@ -6,6 +6,7 @@ import java.util.Random;
 public final class NimTest {
     // Three calls a move, and those that set the position up, stay under 512.
     private static final int MOVES_OF_ONE_OBJECT = 100;
+    private static final int MOST_MOVES = 23;
     private static final Due DUE = new Due();
 
     public static void main(String[] args) {
@@ -63,7 +64,7 @@ public final class NimTest {
         SproutTable table = new SproutTable();
         table.begin(3 + random.nextInt(6));
         boolean gathers = random.nextBoolean();
-        while (table.count(3) > 9 && table.moves() > 0) {
+        for (int t = 0; t < MOST_MOVES && table.count(3) > 9 && table.moves() > 0; t++) {
             table.move(choose(table, random, gathers));
         }
         int more = random.nextInt(4);

@@ -500,7 +500,7 @@ public final class PromisesTest {
         for (int way = 0; way < 3; way++) {
             SproutTable x = table(8);
             int made = 0;
-            for (int many = x.moves(); many > 0; many = x.moves()) {
+            for (int many = x.moves(); many > 0 && made < 24; many = x.moves()) {
                 DUE.is("move", x.move(way == 0 ? 0 : way == 1 ? many - 1 : many / 2), 8 + made);
                 made++;
             }
