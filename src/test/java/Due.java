@@ -5,17 +5,25 @@ final class Due {
     private int wrong = 0;
 
     void is(String call, long got, long want) {
-        asked++;
-        if (got != want) {
-            wrong++;
-            if (wrong <= MOST_TOLD) {
-                System.out.println(call + " answered " + got + ", due is " + want);
-            }
-        }
+        note(call, got == want, Long.toString(got), Long.toString(want));
     }
 
     void is(String call, boolean got, boolean want) {
         is(call, got ? 1 : 0, want ? 1 : 0);
+    }
+
+    void same(String name, String got, String want) {
+        note(name, got.equals(want), got, want);
+    }
+
+    private void note(String name, boolean right, String got, String want) {
+        asked++;
+        if (!right) {
+            wrong++;
+            if (wrong <= MOST_TOLD) {
+                System.out.println(name + " answered " + got + ", due is " + want);
+            }
+        }
     }
 
     void end() {

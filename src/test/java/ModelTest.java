@@ -52,7 +52,8 @@ public final class ModelTest {
 
     private void anyCalls(int number) {
         renew(number);
-        while (calls < MOST_CALLS) {
+        // A step makes two calls at most.
+        while (calls < MOST_CALLS - 1) {
             switch (random.nextInt(20)) {
                 case 0 -> beginNow();
                 case 1, 2, 3 -> moveNow();

@@ -92,10 +92,11 @@ public final class NimTest {
         int many = table.moves();
         boolean[] reached = new boolean[64];
         int toZero = SproutTable.NONE;
+        int[][] game = read(table);
         SproutTable tried = table;
         for (int k = 0; k < many; k++) {
             if (k % MOVES_OF_ONE_OBJECT == 0) {
-                tried = copy(table);
+                tried = play(game);
             }
             tried.move(k);
             int worth = tried.nim();
@@ -109,22 +110,34 @@ public final class NimTest {
         while (reached[least]) {
             least++;
         }
-        SproutTable fresh = copy(table);
+        SproutTable fresh = play(game);
         DUE.is(name + ": nim()", fresh.nim(), least);
         DUE.is(name + ": best()", fresh.best(), toZero);
-        DUE.is(name + ": best() of a new object", copy(table).best(), toZero);
+        DUE.is(name + ": best() of a new object", play(game).best(), toZero);
     }
 
-    /** The same game on a new object, which has 512 calls of its own. */
-    private static SproutTable copy(SproutTable table) {
-        SproutTable copy = new SproutTable();
+    /** How a game went: how many spots it began with, then its moves. */
+    private static int[][] read(SproutTable table) {
         int many = table.count(2);
-        copy.begin(table.count(0) - many);
+        int[][] game = new int[many + 1][6];
+        game[0][0] = table.count(0) - many;
         for (int t = 0; t < many; t++) {
-            copy.join(table.made(t, 0), table.made(t, 1), table.made(t, 2),
-                    table.made(t, 3), table.made(t, 4), table.made(t, 5));
+            for (int what = 0; what < 6; what++) {
+                game[t + 1][what] = table.made(t, what);
+            }
         }
-        return copy;
+        return game;
+    }
+
+    /** The game on a new object, which has 512 calls of its own. */
+    private static SproutTable play(int[][] game) {
+        SproutTable table = new SproutTable();
+        table.begin(game[0][0]);
+        for (int t = 1; t < game.length; t++) {
+            int[] m = game[t];
+            table.join(m[0], m[1], m[2], m[3], m[4], m[5]);
+        }
+        return table;
     }
 
     /** One wall with nine spots on it, each twice: the most corners that nine lives can have. */
@@ -139,6 +152,7 @@ public final class NimTest {
         int[] chain = {7, 1, 2, 3, 4, 9};
         for (int k = 0; k + 1 < chain.length; k++) {
             link(table, chain[k], chain[k + 1]);
+            table = play(read(table));
         }
         DUE.is("lives of the chain", table.count(3), 9);
         DUE.is("walls of the chain's field", table.walls(0), 1);
