@@ -26,6 +26,13 @@ final class Due {
         }
     }
 
+    /** For a test whose next answers may take for ever if one was wrong already. */
+    void endIfWrong() {
+        if (wrong != 0) {
+            end();
+        }
+    }
+
     void end() {
         System.out.println(asked + " answers asked, " + wrong + " not as due");
         if (wrong != 0 || asked == 0) {

@@ -12,7 +12,6 @@ public final class TermsEdgesTest {
 
     public static void main(String[] args) {
         threeEndsAtMost();
-        theLastOfAllCalls();
         livesAreThreeLessEnds();
         numberedFromNull();
         spotWithoutCurves();
@@ -32,10 +31,13 @@ public final class TermsEdgesTest {
         sideCountedWithoutU();
         newFieldIsTheLast();
         theOrder();
+        constants();
+        // Where moves are done that can't be, a game need not end, and so need not nim().
+        DUE.endIfWrong();
+        theLastOfAllCalls();
         over();
         leastNumber();
         nineLivesAtMost();
-        constants();
         DUE.end();
     }
 
