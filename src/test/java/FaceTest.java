@@ -13,8 +13,24 @@ import java.util.TreeSet;
 
 /** The public face is that of the document and no more, and what an object keeps stays small. */
 public final class FaceTest {
-    private static final String FACE = "again/1 begin/1 best/0 corner/3 corners/2 count/1 image/1 join/6 lives/1"
-            + " made/2 move/1 moves/0 nim/0 tell/2 undo/0 walls/1";
+    private static final String[] FACE = {
+        "public boolean SproutTable.again(int)",
+        "public boolean SproutTable.begin(int)",
+        "public boolean SproutTable.image(int)",
+        "public int SproutTable.best()",
+        "public int SproutTable.corner(int,int,int)",
+        "public int SproutTable.corners(int,int)",
+        "public int SproutTable.count(int)",
+        "public int SproutTable.join(int,int,int,int,int,int)",
+        "public int SproutTable.lives(int)",
+        "public int SproutTable.made(int,int)",
+        "public int SproutTable.move(int)",
+        "public int SproutTable.moves()",
+        "public int SproutTable.nim()",
+        "public int SproutTable.tell(int,int)",
+        "public int SproutTable.undo()",
+        "public int SproutTable.walls(int)",
+    };
     private static final Due DUE = new Due();
 
     public static void main(String[] args) throws ReflectiveOperationException {
@@ -24,21 +40,24 @@ public final class FaceTest {
         DUE.end();
     }
 
-    private static void face() {
+    private static void face() throws ReflectiveOperationException {
         Class<?> table = SproutTable.class;
         DUE.is("public", Modifier.isPublic(table.getModifiers()), true);
         DUE.is("final", Modifier.isFinal(table.getModifiers()), true);
         DUE.is("constructors", table.getDeclaredConstructors().length, 1);
-        DUE.is("public constructors", table.getConstructors().length, 1);
+        DUE.same("constructor", table.getDeclaredConstructor().toString(), "public SproutTable()");
+        DUE.same("class above", table.getSuperclass().toString(), "class java.lang.Object");
+        DUE.is("interfaces", table.getInterfaces().length, 0);
+        DUE.is("package", table.getPackageName().isEmpty(), true);
         TreeSet<String> open = new TreeSet<>();
         TreeSet<String> names = new TreeSet<>();
         for (Method m : table.getDeclaredMethods()) {
             if (!Modifier.isPrivate(m.getModifiers())) {
-                open.add(m.getName() + "/" + m.getParameterCount());
+                open.add(m.toString());
                 names.add(m.getName());
             }
         }
-        DUE.is("methods " + open, String.join(" ", open).equals(FACE), true);
+        DUE.same("methods", String.join("; ", open), String.join("; ", FACE));
         for (Method m : table.getDeclaredMethods()) {
             if (Modifier.isPrivate(m.getModifiers())) {
                 DUE.is("private " + m.getName(), names.contains(m.getName()), false);
@@ -47,6 +66,8 @@ public final class FaceTest {
         for (Field f : table.getDeclaredFields()) {
             DUE.is("field " + f.getName(), Modifier.isPrivate(f.getModifiers()), !f.getName().equals("NONE"));
         }
+        DUE.same("constant", table.getDeclaredField("NONE").toString(), "public static final int SproutTable.NONE");
+        DUE.is("NONE", SproutTable.NONE, -1);
     }
 
     private static void nested() {
